@@ -330,8 +330,8 @@ public final class HundredMenAft {
         for (int a = 0; a < loads.n; a++) {
             for (int b = a + 1; b < loads.n; b++) {
                 boundFirst(a, b, more);
-                span.narrow(0, loads.x[a] - loads.x[b], moreMoment - loads.x[b] * more);
-                span.narrow(0, loads.y[a] - loads.y[b], moreList - loads.y[b] * more);
+                span.fix(0, loads.x[a] - loads.x[b], moreMoment - loads.x[b] * more);
+                span.fix(0, loads.y[a] - loads.y[b], moreList - loads.y[b] * more);
                 long change = firstChange(more);
                 if (change != 0) {
                     tellFirstPair(a, b, (int) change, (int) (more - change));
@@ -476,7 +476,7 @@ public final class HundredMenAft {
         if (!isDepth(depth) || !isDepth(target) || !between(n, 0, LONGEST_DIVE)) {
             return NONE;
         }
-        diver.begin(depth, boat.momentNow());
+        diver.begin(depth, Dive.pushOf(boat.momentNow()));
         int there = depth >= target ? 0 : NONE;
         for (int second = 1; second <= n; second++) {
             diver.goSecond();
@@ -498,10 +498,13 @@ public final class HundredMenAft {
         int most = Math.min(loads.has[from], loads.room(to));
         int moment = boat.momentNow();
         int step = loads.x[to] - loads.x[from];
+        int tried = Dive.pushOf(moment) + 1;
         for (int men = 0; men <= most; men++) {
-            // As many men as leave the cut push as it was dive as those ahead of them did.
-            if (men == 0 || !Dive.pushAlike(moment + men * step, moment + (men - 1) * step)) {
-                diver.begin(depth, moment + men * step);
+            int push = Dive.pushOf(moment + men * step);
+            // Another man more whose push is cut to the same dives as those ahead of him did.
+            if (push != tried) {
+                tried = push;
+                diver.begin(depth, push);
                 int second = diver.arrives(target, n);
                 if (second != NONE) {
                     told.empty();
@@ -758,7 +761,7 @@ public final class HundredMenAft {
         if (!isDepth(depth) || !between(thick, 1, 20) || depth <= thick) {
             return NONE;
         }
-        diver.begin(depth, boat.momentNow());
+        diver.begin(depth, Dive.pushOf(boat.momentNow()));
         int second = 0;
         while (diver.tenths > thick * 10 && second < LONGEST_DIVE) {
             diver.goSecond();
@@ -895,7 +898,7 @@ public final class HundredMenAft {
         }
 
         /** Keeps those k with which start and step times k together are just so. */
-        void narrow(long start, long step, long just) {
+        void fix(long start, long step, long just) {
             narrow(start, step, just, just);
         }
 
@@ -1046,14 +1049,6 @@ public final class HundredMenAft {
             return sum;
         }
 
-        int tanksMost() {
-            int sum = 0;
-            for (int i = 0; i < tanks; i++) {
-                sum += most[fromAft[i]];
-            }
-            return sum;
-        }
-
         int thatHold() {
             int many = 0;
             for (int i = 0; i < n; i++) {
@@ -1191,7 +1186,7 @@ public final class HundredMenAft {
         boolean findSums(int depth) {
             int rest = heavyAt(depth) - loads.tanksHold();
             int restMoment = momentNow() - loads.tanksMoment();
-            sums.reset(0, loads.tanksMost());
+            sums.reset(0, FAR);
             sums.narrow(rest, 1, -slacks[HEAVY], slacks[HEAVY]);
             keepSums(restMoment, true, -FAR, slacks[MOMENT]);
             keepSums(restMoment, false, -slacks[MOMENT], FAR);
@@ -1607,7 +1602,7 @@ public final class HundredMenAft {
             minutes = Math.abs(run) + Math.abs(otherRun);
         }
 
-        /** The fewest minutes (of equal ones the other way) with which a pump alone balances, 0 if none do. */
+        /** The fewest minutes with which a pump balances what is not balanced now, 0 if none do. */
         private int fewestOf(int pump) {
             span.reset(-LONGEST_RUN, LONGEST_RUN);
             boundByEnd(from[pump], -rate[pump]);
@@ -1615,14 +1610,11 @@ public final class HundredMenAft {
             boundBySlack(heavyThen, rate[pump] * weightGain(pump), HEAVY);
             boundBySlack(momentThen, rate[pump] * momentGain(pump), MOMENT);
             boundBySlack(listThen, rate[pump] * listGain(pump), LIST);
-            int back = (int) Math.min(span.high, -1);
-            int ahead = (int) Math.max(span.low, 1);
-            boolean canBack = back >= span.low;
-            boolean canAhead = ahead <= span.high;
-            if (canBack && (!canAhead || -back <= ahead)) {
-                return back;
+            if (span.isEmpty()) {
+                return 0;
             }
-            return canAhead ? ahead : 0;
+            // It is not balanced now, so 0 is not in the span: all of it is one way.
+            return (int) (span.low > 0 ? span.low : span.high);
         }
 
         private void boundByEnd(int end, int step) {
@@ -1648,13 +1640,14 @@ public final class HundredMenAft {
             boat = aBoat;
         }
 
-        static boolean pushAlike(int moment, int other) {
-            return moment / 2000 == other / 2000;
+        /** What a moment adds to the speed each second. */
+        static int pushOf(int moment) {
+            return moment / 2000;
         }
 
-        void begin(int depth, int moment) {
+        void begin(int depth, int aPush) {
             weight = boat.weightNow();
-            push = moment / 2000;
+            push = aPush;
             tenths = depth * 10;
             speed = 0;
         }

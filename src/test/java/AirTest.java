@@ -137,6 +137,13 @@ public final class AirTest {
         x.air(10);
         Check.due("not once", x.times(1, 0), 0);
         Check.row("not once", x, 10);
+        x = new HundredMenAft();
+        x.load(1, 0, 0, 5, 5);
+        x.load(0, 0, 0, 1, 1);
+        x.air(10);
+        Check.due("1 each time", x.times(2, 0), 10);
+        Check.due("the first is a store", x.times(3, 0), -1);
+        Check.due("the first is a store", x.rise(3, 0), -1);
         HundredMenAft y = boat(0, 1, 1, 1, 1, 1, 1, 1, 1, 1, 1, 1, 1, 1, 1, 1);
         Check.due("15 of them", y.times(32767, 0), 99999 / (15 * 999));
         Check.due("nothing changes", y.count(6), 99999);

@@ -268,6 +268,9 @@ public final class BoatTest {
         Check.row("hover", x, 5, 15);
         Check.due("hover from within", x.hover(12, 13), 2);
         Check.row("hover from within", x, 12, 13);
+        Check.due("one depth", x.hover(15, 600), 1);
+        Check.row("one depth", x, 15, 15);
+        x.hover(12, 13);
         Check.due("refused", x.hover(13, 12), -1);
         Check.due("refused", x.hover(-1, 12), -1);
         Check.due("refused", x.hover(0, 601), -1);

@@ -121,6 +121,8 @@ public final class BookTest {
         Check.due("w", value(x, "w"), 1000);
         x.layer(0, 1020);
         Check.due("w of a layer", value(x, "w"), 1020);
+        x.layer(1, 1030);
+        Check.due("w of the first layer", value(x, "w"), 1020);
         Check.due("h in it", value(x, "h"), 945 - 1020);
         Check.due("n", value(x, "n0+n01*100"), 540);
         Check.due("n of none", value(x, "n2+n15"), 0);
@@ -167,6 +169,13 @@ public final class BookTest {
         Check.due("at once", x.holds(0), 0);
         Check.row("at once", x, 80, 0, 0);
         Check.due("deep, in no other water", x.holds(600), 0);
+        x.base(1000, 0, 0);
+        Check.book(x, "0=10*(d-403)");
+        Check.due("400 days more", x.holds(0), 400);
+        Check.row("400 days more", x, 10, 0, 0);
+        Check.book(x, "0=10*(d-404)");
+        Check.due("401 days more", x.holds(0), -2);
+        Check.row("none: as it was", x, 10, 0, 0);
         x.base(595, 0, 0);
         Check.book(x, "0=0");
         Check.due("far too light", x.holds(0), 0);

@@ -91,6 +91,13 @@ public final class GroundTest {
         Check.due("put to 0 behind the last second: no speed", y.ice(9, 1), 0);
         Check.row("90 85 75 60 40 15, 0", y, 6, 0);
         Check.due("not put to 0", y.ice(8, 1), 1);
+        HundredMenAft z = new HundredMenAft();
+        z.base(1000, 0, 0);
+        z.layer(595, 1020);
+        Check.due("ten seconds in the layer, then 10 a second", z.ice(600, 5), 0);
+        Check.row("second 600", z, 600, 100);
+        Check.due("second 601", z.ice(600, 4), 0);
+        Check.row("second 601", z, -1, 0);
         Check.row("80 75 65 50 30 5", y, 5, 25 * 9);
     }
 }

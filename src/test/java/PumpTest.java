@@ -7,6 +7,8 @@ public final class PumpTest {
         trimByOne();
         trimByTwo();
         trimAsTheyCan();
+        trimAsLongAsTheyMay();
+        trimOfBothWays();
         reach();
         reachEdges();
         Check.finish("PumpTest");
@@ -177,6 +179,42 @@ public final class PumpTest {
         Check.row("a row is told only with an answer", y, 0, -1);
     }
 
+    private static void trimAsLongAsTheyMay() {
+        HundredMenAft x = new HundredMenAft();
+        x.load(0, 0, 0, 999, 0);
+        x.load(0, 0, 0, 999, 0);
+        x.slack(0, 0);
+        x.hull(198, 0);
+        x.pump(-1, 0, 1, true);
+        Check.due("one can't so long", x.trim(0, false), -2);
+        x.pump(1, -1, 1, true);
+        Check.due("99 and 99", x.trim(0, false), 198);
+        Check.row("99 and 99", x, 0, 99, 1, -99);
+        x.hull(199, 0);
+        Check.due("one more", x.trim(0, false), -2);
+        x.hull(99, 0);
+        Check.due("one alone", x.trim(0, false), 99);
+        Check.row("the least row: 1 and 98", x, 0, 1, 1, -98);
+    }
+
+    private static void trimOfBothWays() {
+        HundredMenAft y = new HundredMenAft();
+        y.load(0, 10, 3, 100, 50);
+        y.load(0, -10, -3, 100, 50);
+        y.hull(100, 0);
+        y.slack(2, 0);
+        y.base(0, 0, 24);
+        y.pump(0, 1, 2, true);
+        Check.due("by list alone", y.trim(0, true), 2);
+        Check.row("by list alone", y, 0, 2);
+        y.base(0, 0, -24);
+        Check.due("the other way", y.trim(0, true), 2);
+        Check.row("the other way", y, 0, -2);
+        y.pump(1, 0, 2, true);
+        Check.due("the least row", y.trim(0, true), 2);
+        Check.row("the least row: one minute each", y, 0, -2);
+    }
+
     private static void reach() {
         HundredMenAft x = new HundredMenAft();
         x.load(0, 10, 0, 100, 0);
@@ -212,6 +250,8 @@ public final class PumpTest {
         x.base(1000, 200, 0);
         Check.due("no tanks", x.reach(0), 1);
         Check.row("no tanks", x, 0, 0);
+        x.base(1000, -200, 0);
+        Check.due("no tanks", x.reach(0), 1);
         x.base(1000, 201, 0);
         Check.due("no tanks", x.reach(0), 0);
         x.base(994, 0, 0);

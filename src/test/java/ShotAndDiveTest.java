@@ -183,5 +183,6 @@ public final class ShotAndDiveTest {
         Check.due("no such load", x.carry(0, 8, 1), false);
         Check.due("no such load", x.carry(-1, 0, 1), false);
         Check.due("all", x.carry(3, 2, 40), true);
+        Check.due("one", x.carry(2, 3, 1), true);
     }
 }

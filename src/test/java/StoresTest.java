@@ -158,6 +158,9 @@ public final class StoresTest {
         x.load(1, 10, 0, 100, 10);
         Check.due("all at once", x.shift(0), 0);
         Check.row("the first pair", x, 0, 3);
+        x.fill(0, 9);
+        Check.due("just the room", x.shift(0), 0);
+        Check.row("just the room", x, 0, 1);
     }
 
     private static void shiftAsLongAsEver() {
@@ -173,5 +176,18 @@ public final class StoresTest {
         x.base(900, -200, 0);
         Check.due("none to an end", x.shift(0), -1);
         Check.row("none to an end: the first pair", x, 1, 2);
+        HundredMenAft y = new HundredMenAft();
+        y.load(0, 0, 0, 395, 0);
+        y.load(1, 0, 0, 999, 999);
+        y.load(1, 0, 0, 10, 10);
+        y.load(1, 0, 0, 5, 0);
+        y.load(1, 0, 0, 10, 0);
+        y.hull(1010, 0);
+        y.eats(1, 1, 0, -1);
+        Check.due("as it is", y.lasts(0), 400);
+        Check.due("day 400", y.shift(0), 400);
+        Check.row("day 400", y, 2, 4);
+        y.hull(1009, 0);
+        Check.due("day 401", y.shift(0), -1);
     }
 }

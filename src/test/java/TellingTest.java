@@ -195,7 +195,19 @@ public final class TellingTest {
         Check.telling(y, "l0,5");
         Check.due("the fourth is told apart", y.look(24, 0), 3);
         Check.row("the fourth is told apart", y, 13, 0);
-        Check.due("none is told apart", y.look(99, 0), 4);
-        Check.row("none is told apart", y, 0, 0);
+        Check.telling(y, "l0,4");
+        Check.telling(y, "l0,4");
+        Check.due("six of them", y.look(99, 0), 6);
+        Check.row("six of them", y, 0, 0);
+        HundredMenAft z = new HundredMenAft();
+        z.load(0, 0, 0, 100, 50);
+        Check.telling(z, "l0,2");
+        Check.telling(z, "l0,1");
+        Check.due("the last hour", z.look(23, 0), 1);
+        Check.row("the last hour", z, 24, 0);
+        Check.due("none", z.look(24, 0), 2);
+        Check.row("none", z, 0, 0);
+        Check.telling(z, "l0,3");
+        Check.due("the first goes with both", z.look(24, 0), 3);
     }
 }
