@@ -23,10 +23,12 @@ public final class EdgeBookTest {
         morningDoesTanksAlone();
         holdsFromNowOn();
         holdsFourHundred();
+        holdsAtADepth();
         liarAtItsEdges();
         liarOfFifteen();
         twoAtItsEdges();
         twoOfFifteen();
+        twoOfUnlikePlaces();
         Check.finish("EdgeBookTest");
     }
 
@@ -451,6 +453,18 @@ public final class EdgeBookTest {
         Check.due("the DAY is as it was", x.count(7), 32);
     }
 
+    private static void holdsAtADepth() {
+        HundredMenAft x = new HundredMenAft();
+        x.load(0, 1, 2, 99, 0);
+        x.base(1100, 0, 0);
+        x.layer(600, 1100);
+        Check.book(x, "0=d");
+        Check.due("far too heavy at 599", x.holds(599), 0);
+        Check.row("HEAVY at 599", x, 100, 0, 0);
+        Check.due("in balance at 600 for five DAYS more", x.holds(600), 6);
+        Check.row("HEAVY at 600", x, 6, 6, 12);
+    }
+
     private static void liarAtItsEdges() {
         HundredMenAft x = new HundredMenAft();
         x.load(0, 3, 1, 9, 4);
@@ -551,5 +565,24 @@ public final class EdgeBookTest {
         Check.due("the first is full: 8 more need two others", x.two(0, 8, 87, 87), 91);
         Check.row("the first is full: 8 more need two others", x, 1, 2, 9, 9);
         Check.due("4 more: not by the full one, that can't be unlike by less", x.two(0, 4, 83, 83), 91);
+    }
+
+    private static void twoOfUnlikePlaces() {
+        HundredMenAft x = new HundredMenAft();
+        x.load(0, 2, 5, 50, 20);
+        x.load(1, -3, 1, 50, 20);
+        x.layer(10, 1100);
+        int moment = x.moment(0);
+        int list = x.moment(1);
+        Check.due("7 more, 3 less", x.two(0, -960 + 4, moment + 14 + 9, list + 35 - 3), 1);
+        Check.row("7 more, 3 less", x, 0, 1, 27, 17);
+        Check.due("5 less, 9 more", x.two(0, -960 + 4, moment - 10 - 27, list - 25 + 9), 1);
+        Check.row("5 less, 9 more", x, 0, 1, 15, 29);
+        Check.due("7 more, 3 less in other water", x.two(10, -1060 + 4, moment + 14 + 9, list + 35 - 3), 1);
+        Check.row("7 more, 3 less in other water", x, 0, 1, 27, 17);
+        Check.due("in other water it is another HEAVY", x.two(10, -960 + 4, moment + 14 + 9, list + 35 - 3), 0);
+        Check.due("liar in other water", x.liar(10, -1060 + 7, moment + 14, list + 35), 1);
+        Check.row("liar in other water", x, 27, -1);
+        Check.due("in other water it is another HEAVY", x.liar(10, -960 + 7, moment + 14, list + 35), 0);
     }
 }

@@ -14,6 +14,7 @@ public final class EdgePumpTest {
         trimOfSixPumps();
         trimOnlyQuietOnes();
         trimAtMostNinetyNine();
+        trimAtADepth();
         reachFarthestFirst();
         reachOfNoTanks();
         reachLeastAndGreatest();
@@ -317,6 +318,13 @@ public final class EdgePumpTest {
         weigh(y, 5);
         Check.due("the other way", y.trim(0, false), 2);
         Check.row("-2 is less than -1", y, 0, -2);
+        HundredMenAft w = tanks(100, 50, 100, 50);
+        w.slack(0, 2);
+        w.pump(0, -1, 2, true);
+        w.pump(-1, 1, 1, true);
+        weigh(w, 5);
+        Check.due("[0, 2] and [0, 1, 1, -1] are as few", w.trim(0, false), 2);
+        Check.row("one minute the other way is enough, of five it could", w, 0, 1, 1, -1);
         HundredMenAft z = tanks(100, 50, 100, 50);
         z.pump(-1, 0, 3, true);
         z.pump(-1, 1, 1, true);
@@ -390,6 +398,28 @@ public final class EdgePumpTest {
         Check.row("99 and 99", x, 0, -99, 1, 99);
         weigh(x, 199);
         Check.due("99 and 100", x.trim(0, false), -2);
+    }
+
+    private static void trimAtADepth() {
+        HundredMenAft x = tanks(100, 50, 100, 50);
+        x.pump(-1, 0, 7, true);
+        x.pump(-1, 1, 1, true);
+        x.base(900, 0, 0);
+        x.layer(600, 1010);
+        Check.due("in balance at 599", x.trim(599, false), 0);
+        Check.row("in balance at 599", x);
+        Check.due("10 in at 600", x.trim(600, false), 4);
+        Check.row("10 in at 600", x, 0, 1, 1, 3);
+        x.base(910, 0, 0);
+        Check.due("in balance at 600", x.trim(600, false), 0);
+        Check.row("in balance at 600", x);
+        Check.due("10 out at 599", x.trim(599, false), 4);
+        Check.row("10 out at 599", x, 0, -1, 1, -3);
+        x.base(903, 0, 0);
+        Check.due("7 in at 600", x.trim(600, false), 1);
+        Check.row("7 in at 600", x, 0, 1);
+        Check.due("3 out at 599", x.trim(599, false), 3);
+        Check.row("3 out at 599", x, 1, -3);
     }
 
     private static HundredMenAft threeTanks(int first, int second, int third) {

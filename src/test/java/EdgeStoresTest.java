@@ -150,6 +150,21 @@ public final class EdgeStoresTest {
         Check.due("a pair of 15", x.shift(0), 0);
         Check.row("a pair of 15", x, 0, 1);
         Check.due("15 STORES last", x.lasts(0), 0);
+        HundredMenAft y = new HundredMenAft();
+        for (int i = 0; i < 15; i++) {
+            y.load(i < 7 ? 1 : 0, 0, 0, 100, 50);
+        }
+        y.eats(0, 10, 100, 14);
+        y.hull(750, 0);
+        Check.book(y, "14=n14-1");
+        Check.due("holds with the last LOAD", y.holds(0), 5);
+        Check.due("the last LOAD is as it was", y.of(14, 4), 50);
+        Check.due("lasts with waste to the last LOAD", y.lasts(0), -2);
+        Check.due("the last LOAD is as it was", y.of(14, 4), 50);
+        Check.due("ground with the last LOAD", y.ground(0, 399), 400);
+        Check.due("the last LOAD is as it was", y.of(14, 4), 50);
+        Check.due("shift ahead of the last LOAD", y.shift(0), -1);
+        Check.due("the last LOAD is as it was", y.of(14, 4), 50);
     }
 
     /** A tank that can take the place of what is eaten, of a store that is eaten one a day. */

@@ -49,6 +49,7 @@ public final class RefusedTest {
         full();
         texts();
         nothingChanges();
+        nothingChangesByDays();
         itCanNot();
         Check.finish("RefusedTest");
     }
@@ -317,6 +318,69 @@ public final class RefusedTest {
         Twin.sameButRow("fits", RefusedTest::rich, 0, x -> x.fits(0));
         Twin.sameButRow("times", RefusedTest::rich, 40, x -> x.times(1, 0));
         Twin.sameButRow("ice", RefusedTest::rich, 0, x -> x.ice(600, 20));
+    }
+
+    /** As the rich one, but in balance at first, so that calls that look ahead have a way to go. */
+    private static HundredMenAft calm() {
+        HundredMenAft x = rich();
+        x.mix();
+        x.base(700, 0, 0);
+        x.base(700, -x.moment(0), -x.moment(1));
+        x.hull(700 + 45 + 32 + 24 + 20 + 60 + 10 + 20, 0);
+        Check.book(x, "0=45+d;1=n1");
+        Check.text(x, "2=n0");
+        x.dive(5, 6, 3);
+        return x;
+    }
+
+    private static void nothingChangesByDays() {
+        Check.due("in balance", calm().balanced(0), 1);
+        Check.due("on DAY 2", calm().count(7), 2);
+        Twin.sameButRow("holds for days", RefusedTest::calm, 24, x -> x.holds(0));
+        Twin.sameButRow("holds for ever", () -> {
+            HundredMenAft x = calm();
+            x.eats(2, 1, 0, -1);
+            Check.book(x, "0=45+24-n2;1=32");
+            x.slack(1, 9999);
+            x.slack(2, 9999);
+            return x;
+        }, -2, x -> x.holds(0));
+        Twin.sameButRow("lasts for days", () -> {
+            HundredMenAft x = calm();
+            x.load(1, 0, 0, 300, 300);
+            x.hull(911 + 300, 0);
+            x.eats(8, 5, 0, -1);
+            return x;
+        }, 20, x -> x.lasts(0));
+        Twin.sameButRow("shift of some days", () -> {
+            HundredMenAft x = calm();
+            x.hull(911 + 100, 0);
+            x.eats(2, 3, 0, -1);
+            x.eats(3, 4, 0, -1);
+            return x;
+        }, 8, x -> x.shift(0));
+        Twin.sameButRow("shift to no end", RefusedTest::calm, -1, x -> x.shift(0));
+        Twin.sameButRow("trim of two", () -> {
+            HundredMenAft x = calm();
+            x.slack(0, 0);
+            x.hull(911 + 6, 0);
+            return x;
+        }, 2, x -> x.trim(0, false));
+        Twin.sameButRow("best", RefusedTest::calm, 0, x -> x.best(0, 600));
+        Twin.sameButRow("forward of some", RefusedTest::calm, 20, x -> x.forward(4, 5, 0, 1, 4));
+        Twin.sameButRow("rise of one", RefusedTest::calm, 1, x -> x.rise(131, 0));
+        Twin.sameButRow("ground", RefusedTest::calm, 51, x -> x.ground(0, 50));
+        Twin.sameButRow("look", () -> {
+            HundredMenAft x = new HundredMenAft();
+            x.load(0, 1, 1, 50, 5);
+            Check.telling(x, "l0,1");
+            Check.telling(x, "b0,3");
+            return x;
+        }, 1, x -> x.look(1, 0));
+        Twin.sameButRow("liar", RefusedTest::calm, 1, x -> x.liar(0, 1, 10, 1));
+        Twin.sameButRow("two", RefusedTest::calm, 1, x -> x.two(0, 0, 20, 2));
+        Twin.sameButRow("dive", RefusedTest::calm, 50, x -> x.dive(5, 6, 600));
+        Twin.sameButRow("times", RefusedTest::calm, 21, x -> x.times(3, 0));
     }
 
     /** Calls that can't, and calls that look for something: they change nothing but the row. */
