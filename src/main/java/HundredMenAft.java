@@ -1496,8 +1496,8 @@ public final class HundredMenAft {
             return n - 1;
         }
 
-        boolean can(int pump, int n) {
-            int much = n * rate[pump];
+        boolean can(int pump, int run) {
+            int much = run * rate[pump];
             return takes(from[pump], -much) && takes(to[pump], much);
         }
 
@@ -1506,8 +1506,8 @@ public final class HundredMenAft {
             return !loads.there(end) || between(loads.has[end] + more, 0, loads.most[end]);
         }
 
-        void move(int pump, int n) {
-            int much = n * rate[pump];
+        void move(int pump, int run) {
+            int much = run * rate[pump];
             if (loads.there(from[pump])) {
                 loads.has[from[pump]] -= much;
             }
